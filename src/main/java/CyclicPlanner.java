@@ -136,7 +136,7 @@ public final class CyclicPlanner {
     }
 
     private static boolean holds(int set, int member) {
-        return (set >> member & 1) != 0;
+        return ((set >> member) & 1) != 0;
     }
 
     // The states that can come to a goal by actions that cannot leave the allowed states.
@@ -167,7 +167,7 @@ public final class CyclicPlanner {
         for (int slot = 0; slot < SLOTS; slot++) {
             int outcomes = outcomeSets[slot];
             if ((outcomes & ~allowed) == 0 && (outcomes & reached) != 0) {
-                grown |= 1 << slot / ACTIONS;
+                grown |= 1 << (slot / ACTIONS);
             }
         }
         return grown;

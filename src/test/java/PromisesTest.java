@@ -84,7 +84,9 @@ public final class PromisesTest {
 
     private static void goals() {
         CyclicPlanner x = new CyclicPlanner();
-        for (int set = 0; set < 256; set++) {
+        // Each set after its opposite; all of them would be more calls than an object is for.
+        for (int set = 0; set < 256; set += 3) {
+            due.is("3: goals", x.goals(255 - set), true);
             due.is("3: goals", x.goals(set), true);
             due.is("3: just these are goals", x.sure(), set);
         }
