@@ -39,6 +39,22 @@ final class Plan {
             .set(7, 0, 128).set(7, 1, 4);
     }
 
+    /** Any goals and actions; a place that is drawn twice makes one action. */
+    static Plan mixed(Row row, int actions, int most) {
+        Plan p = goals(row.anySet(2));
+        for (int n = 0; n < actions; n++) p.outcomes[row.any(SLOTS)] = row.anySet(most);
+        return p;
+    }
+
+    int goals() {
+        return goals;
+    }
+
+    /** The empty set if there is no such action. */
+    int outcomes(int s, int a) {
+        return outcomes[s * 3 + a];
+    }
+
     Plan set(int s, int a, int set) {
         outcomes[s * 3 + a] = set;
         return this;
